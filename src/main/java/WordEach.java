@@ -20,7 +20,7 @@ public final class WordEach {
     private static final int MOST_LETTERS = 6;
     private static final int MOST_DIGITS = 4;
     private static final int MOST_AGE = 99;
-    private static final int MOST_PLANNED = 5;
+    private static final int MOST_PLANNED = 4;
     private static final int MOST_TURNS = 3;
     private static final int MOST_LOTS = 200;
     private static final int MOST_OPEN = 6;
@@ -951,25 +951,17 @@ public final class WordEach {
             takeOwn(OWN_SAYS);
             witness.count = 0;
             for (int k = 0; k < MOST_SAID && (k == 0 || tape.sign == Tape.WORD); k++) {
-                readSaying(witness, k);
+                int from = tape.at;
+                int word = takeWord(NONE);
+                if (witness.maySay(word)) {
+                    tape.fail(WORD_FAULT, from);
+                }
+                witness.words[k] = word;
+                witness.count = k + 1;
             }
             if (tape.fault == 0) {
                 draft.witnesses++;
             }
-        }
-
-        private void readSaying(Witness witness, int k) {
-            int from = tape.at;
-            int word = takeWord(NONE);
-            if (tape.fault != 0) {
-                return;
-            }
-            if (witness.maySay(word)) {
-                tape.fail(WORD_FAULT, from);
-                return;
-            }
-            witness.words[k] = word;
-            witness.count = k + 1;
         }
 
         private void readAccused() {
@@ -1135,7 +1127,7 @@ public final class WordEach {
         }
 
         private int wordIn(int state, int line, int slot) {
-            int place = court.hasLine(line) ? court.slotPlaces[line][slot] : NONE;
+            int place = line == NONE ? NONE : court.slotPlaces[line][slot];
             return place == NONE ? NONE : state >> 5 * place & 31;
         }
 
@@ -1347,7 +1339,11 @@ public final class WordEach {
         }
     }
 
-    /** Looks for THE FEWEST, and keeps what it has found until LINES or COURT change. */
+    /**
+     * Looks for THE FEWEST, and keeps what it has found until LINES or COURT change. The document has them up to
+     * five, but no more than four are ever needed: a ROW that brings a RULING has a CLAUSE of the accused (CLEARED:
+     * one that is turned), and that CLAUSE alone, with one turn at most, brings it already.
+     */
     private static final class Planner {
         static final int PLANS = 6;
         static final int UNKNOWN = -2;

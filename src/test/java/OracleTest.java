@@ -42,56 +42,82 @@ public final class OracleTest {
         due("end", bit(x.end(bytes.length)), bit(y.end(bytes.length)));
     }
 
+    /** A text without FAULTS, whose words go together often enough. */
     private String courtText(int mostWitnesses, int mostSaid) {
         StringBuilder t = new StringBuilder();
         List<String> left = new ArrayList<>(List.of(SPELLINGS));
         List<List<String>> of = new ArrayList<>();
-        List<String> all = new ArrayList<>();
-        int[] most = {3, 3, 2, 2, 2, 2};
+        int[] most = {2, 2, 2, 2, 2, 2};
         for (int kind = 0; kind < 6; kind++) {
             of.add(new ArrayList<>());
-            int count = (kind < 2 ? 1 : 0) + pick(most[kind]);
-            for (int i = 0; i < count; i++) {
+            for (int i = (kind < 2 ? 1 : 0) + pick(most[kind]); i > 0; i--) {
                 String word = left.remove(pick(left.size()));
                 of.get(kind).add(word);
-                all.add(word);
                 t.append(KINDS[kind]).append(' ').append(word).append(";");
             }
         }
+        List<String> lines = new ArrayList<>();
         for (int i = pick(5); i >= 0; i--) {
-            t.append("line ").append(LINES[pick(LINES.length)]).append("; ");
+            String line = LINES[pick(pick(2) == 0 ? 2 : LINES.length)];
+            lines.add(line);
+            t.append("line ").append(line).append("; ");
         }
         for (int i = pick(6); i > 0; i--) {
             t.append("fact ").append(any(of.get(0))).append(' ').append(any(of.get(1)));
             t.append(pick(2) == 0 ? " " + any(of.get(0)) : "").append(";\n");
         }
-        for (int i = pick(mostWitnesses + 1); i > 0; i--) {
-            t.append("witness w").append((char) ('a' + i)).append(" age ").append(pick(4) * 20).append(" side ");
-            t.append(pick(2)).append(" says");
-            List<String> unsaid = new ArrayList<>(all);
-            for (int k = 1 + pick(mostSaid); k > 0 && !unsaid.isEmpty(); k--) {
-                boolean common = pick(2) == 0;
-                String word = common ? any(of.get(pick(2))) : any(unsaid);
-                if (unsaid.remove(word)) {
-                    t.append(' ').append(word);
-                }
-            }
-            if (t.toString().endsWith("says")) {
-                t.append(' ').append(all.get(0));
-            }
-            t.append(" ; ");
-        }
         if (pick(8) > 0) {
             t.append("accused ").append(any(of.get(0))).append(' ').append(any(of.get(1))).append(";");
         }
+        for (int i = mostWitnesses - pick(pick(4) + 1); i > 0; i--) {
+            t.append("witness w").append((char) ('a' + i)).append(" age ").append(pick(4) * 20).append(" side ");
+            t.append(pick(2)).append(" says").append(sayings(of, mostSaid)).append(" ; ");
+        }
         for (int i = pick(9); i > 0; i--) {
-            t.append("case");
-            for (int k = 1 + pick(8); k > 0; k--) {
-                t.append(' ').append(pick(3) == 0 ? any(all) : any(of.get(pick(2))));
-            }
-            t.append(";");
+            t.append("case").append(caseWords(of, lines)).append(";");
         }
         return t.toString();
+    }
+
+    private String wordOf(List<List<String>> of) {
+        int kind = pick(3) > 0 ? pick(2) : pick(6);
+        return of.get(kind).isEmpty() ? of.get(0).get(0) : any(of.get(kind));
+    }
+
+    private String sayings(List<List<String>> of, int most) {
+        List<String> said = new ArrayList<>();
+        for (int k = 1 + pick(most); k > 0; k--) {
+            String word = wordOf(of);
+            if (!said.contains(word)) {
+                said.add(word);
+            }
+        }
+        return " " + String.join(" ", said);
+    }
+
+    private String caseWords(List<List<String>> of, List<String> lines) {
+        List<String> words = new ArrayList<>();
+        for (int clauses = 1 + pick(3); clauses > 0; clauses--) {
+            for (int kind : new int[] {2, 2, 5}) {
+                if (pick(3) == 0 && !of.get(kind).isEmpty()) {
+                    words.add(any(of.get(kind)));
+                }
+            }
+            for (String slot : any(lines).split(" ")) {
+                words.add(any(of.get(slot.equals("did") ? 1 : 0)));
+            }
+            List<String> bindings = of.get(3 + pick(2));
+            if (bindings.isEmpty()) {
+                break;
+            }
+            if (clauses > 1) {
+                words.add(any(bindings));
+            }
+        }
+        if (pick(4) == 0) {
+            words.add(pick(words.size()), wordOf(of));
+        }
+        return " " + String.join(" ", words.subList(0, Math.min(8, words.size())));
     }
 
     private String any(List<String> list) {
@@ -200,16 +226,42 @@ public final class OracleTest {
     }
 
     private void rowCall() {
-        int a = near(6);
-        int b = near(4);
-        boolean is = pick(2) == 0;
+        int a = near(y.court.bench.size());
+        int b = near(3);
+        int line = near(y.court.lines.size());
+        boolean is = pick(3) > 0;
         switch (pick(14)) {
-            case 0, 1, 2, 3, 4, 5, 6 -> due("say " + a + " " + b, x.say(a, b), y.say(a, b));
+            case 0, 1, 2 -> due("say " + a + " " + b, x.say(a, b), y.say(a, b));
+            case 3, 4, 5, 6 -> speakWithSense();
             case 7, 8 -> due("back", bit(x.back()), bit(y.back()));
             case 9 -> due("clear", x.clear(), y.clear());
-            case 10, 11 -> due("line " + b + is, bit(x.line(b, is)), bit(y.line(b, is)));
+            case 10, 11 -> due("line " + line + is, bit(x.line(line, is)), bit(y.line(line, is)));
             case 12 -> due("image", x.image(), y.image());
             default -> restore();
+        }
+    }
+
+    /** Clears the ROW and lets WITNESSES speak so that it makes sense, if one of many tries does. */
+    private void speakWithSense() {
+        for (int tries = 0; tries < 30; tries++) {
+            y.row.clear();
+            List<int[]> said = new ArrayList<>();
+            for (int n = 2 + pick(6); n > 0 && !y.court.bench.isEmpty(); n--) {
+                int witness = pick(y.court.bench.size());
+                int k = pick(y.court.bench.get(witness).words().size());
+                if (y.say(witness, k) < 0) {
+                    y.refused[2]--;
+                } else {
+                    said.add(new int[] {witness, k});
+                }
+            }
+            if (y.sense() == Oracle.NONE || tries == 29) {
+                x.clear();
+                for (int i = 0; i < said.size(); i++) {
+                    due("say", x.say(said.get(i)[0], said.get(i)[1]), i + 1);
+                }
+                return;
+            }
         }
     }
 
@@ -217,14 +269,18 @@ public final class OracleTest {
         int a = near(8);
         int b = near(27);
         int c = near(3);
+        int w = near(y.court.bench.size());
+        int r = near(y.row.size());
+        int l = near(y.court.lines.size());
         boolean is = pick(2) == 0;
         due("court " + a, x.court(a), y.court(a));
         due("word " + a + " " + b, x.word(a, b), y.word(a, b));
         due("word " + a + " " + c, x.word(a, c), y.word(a, c));
-        due("bench " + a + " " + b, x.bench(a, b), y.bench(a, b));
-        due("bench " + a + " " + c, x.bench(a, c), y.bench(a, c));
-        due("grammar " + a + " " + c, x.grammar(a, c), y.grammar(a, c));
-        due("row " + a + is, x.row(a, is), y.row(a, is));
+        due("bench " + w + " " + b, x.bench(w, b), y.bench(w, b));
+        due("bench " + w + " " + c, x.bench(w, c), y.bench(w, c));
+        due("grammar " + l + " " + c, x.grammar(l, c), y.grammar(l, c));
+        due("row " + r + is, x.row(r, is), y.row(r, is));
+        due("word " + y.row(r, false) + " 2", x.word(y.row(r, false), 2), y.word(y.row(r, false), 2));
         due("sense", x.sense(), y.sense());
         for (int what = -1; what < 7; what++) {
             due("means " + c + " " + what, x.means(c, what), y.means(c, what));
@@ -234,14 +290,14 @@ public final class OracleTest {
         due("instance " + a + " " + c, x.instance(a, c), y.instance(a, c));
         due("all " + c, x.all(c), y.all(c));
         due("one " + b, x.one(b), y.one(b));
-        due("ill " + a, x.ill(a), y.ill(a));
-        due("between " + a + " " + b, x.between(a, b), y.between(a, b));
+        due("ill " + w, x.ill(w), y.ill(w));
+        due("between " + r + " " + a, x.between(r, a), y.between(r, a));
         due("octet " + b, x.octet(b), y.octet(b));
         due("status " + a, x.status(a), y.status(a));
         due("place " + a, x.place(a), y.place(a));
-        due("turned " + a, x.turned(a), y.turned(a));
+        due("turned " + l, x.turned(l), y.turned(l));
         due("cases " + c, x.cases(c), y.cases(c));
-        due("order " + c + " " + a, x.order(c, a), y.order(c, a));
+        due("order " + c + " " + w, x.order(c, w), y.order(c, w));
         due("order " + c + " NONE", x.order(c, -1), y.order(c, -1));
         due("lots " + b, x.lots(b), y.lots(b));
         int seed = random.nextInt();
@@ -249,7 +305,7 @@ public final class OracleTest {
             due("seed " + seed, bit(x.seed(seed)), bit(y.seed(seed)));
         }
         if (small) {
-            searched(a, c);
+            searched(w, c);
         }
     }
 
@@ -263,6 +319,11 @@ public final class OracleTest {
         due("odds " + c, x.odds(c), y.odds(c));
         due("parts " + c + " " + a + " " + b, x.parts(c, a, b), y.parts(c, a, b));
         due("inn " + c + " " + a, x.inn(c, a), y.inn(c, a));
+        for (int ruling = 1; ruling <= 2; ruling++) {
+            for (int k : new int[] {-1, 0, 1, 2, 3, 4, 10, 11, 12, 13, 14}) {
+                due("plan " + ruling + " -1 0 " + k, x.plan(ruling, -1, 0, k), y.plan(ruling, -1, 0, k));
+            }
+        }
         int side = near(1);
         int kind = near(2);
         for (int k : new int[] {-2, -1, 0, 1, 2, 3, 4, 5, 9, 10, 11, 12, 13, 14, 15}) {
@@ -270,29 +331,42 @@ public final class OracleTest {
         }
     }
 
-    private void run(int mostWitnesses, int mostSaid, int calls, boolean small) {
-        for (int i = 0; i < calls; i++) {
-            if (i == 0 || pick(15) == 0) {
+    private void run(int mostWitnesses, int mostSaid, int rounds, boolean small) {
+        for (int i = 0; i < rounds; i++) {
+            if (i % 4 == 0) {
                 tell(courtText(mostWitnesses, mostSaid));
             }
-            for (int n = pick(6); n > 0; n--) {
+            for (int n = 1 + pick(6); n > 0; n--) {
                 rowCall();
             }
             told(small);
-            ask(pick(4) == 0 ? spoiled(question()) : question());
-            tell(spoiled(pick(2) == 0 ? text : courtText(mostWitnesses, mostSaid)));
+            ask(question());
+        }
+    }
+
+    private void spoil() {
+        for (int i = 0; i < 12; i++) {
+            String whole = courtText(3, 3);
+            tell(pick(6) == 0 ? whole : spoiled(whole));
+            ask(spoiled(question()));
+            for (int what = 0; what < 9; what++) {
+                due("court " + what, x.court(what), y.court(what));
+            }
         }
     }
 
     public static void main(String[] args) {
-        for (int seed = 0; seed < 600; seed++) {
-            new OracleTest(seed).run(3, 3, 8, true);
+        for (int seed = 0; seed < 400; seed++) {
+            new OracleTest(seed).run(3, 3, 16, true);
         }
-        for (int seed = 1000; seed < 1020; seed++) {
-            new OracleTest(seed).run(5, 3, 3, true);
+        for (int seed = 1000; seed < 1030; seed++) {
+            new OracleTest(seed).run(5, 2, 8, true);
         }
-        for (int seed = 2000; seed < 2300; seed++) {
-            new OracleTest(seed).run(7, 4, 20, false);
+        for (int seed = 2000; seed < 2200; seed++) {
+            new OracleTest(seed).run(7, 4, 24, false);
+        }
+        for (int seed = 3000; seed < 3600; seed++) {
+            new OracleTest(seed).spoil();
         }
         Check.over("OracleTest");
     }
