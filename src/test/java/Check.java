@@ -13,6 +13,7 @@ final class Check {
 
     private static int wrong = 0;
     private static int asked = 0;
+    private static String where = "";
 
     private Check() {
     }
@@ -22,13 +23,22 @@ final class Check {
         if (got != want) {
             wrong++;
             if (wrong <= 20) {
-                System.out.println(call + " answered " + got + ", due is " + want);
+                System.out.println(where + call + " answered " + got + ", due is " + want);
             }
         }
     }
 
     static void due(String call, boolean got, boolean want) {
         due(call, got ? 1 : 0, want ? 1 : 0);
+    }
+
+    /** What the answers that follow belong to. */
+    static void within(String what) {
+        where = what.isEmpty() ? "" : "[" + what + "] ";
+    }
+
+    static int asked() {
+        return asked;
     }
 
     static byte[] bytes(String text) {
@@ -72,6 +82,21 @@ final class Check {
         due("place in " + text, x.fault(1), place);
         due("refused " + text, x.status(1), 1);
         due("tape gone", x.end(1), false);
+    }
+
+    /** A text whose FAULT is where it has a ^. */
+    static void marked(int fault, String text) {
+        faulty(text.replace("^", ""), fault, text.indexOf('^'));
+    }
+
+    /** A text without a FAULT. */
+    static WordEach taken(String text, int statements) {
+        WordEach x = new WordEach();
+        due("text " + text, text(x, text), statements);
+        due("fault of " + text, x.fault(0), 0);
+        due("place in " + text, x.fault(1), -1);
+        due("refused " + text, x.status(1), 0);
+        return x;
     }
 
     static long ask(WordEach x, String text) {
